@@ -49,16 +49,19 @@ public final class GivenSearch {
     private static final int UNLIKE_GIVENS = 8;
     private static final int TOLD = 9;
 
-    // The columns of a NODE: the first six as node() tells them, but for the fields behind.
+    // The columns of a NODE: the first six are numbered as node() tells them.
     private static final int GIVEN = 0;
     private static final int ABOVE = 1;
     private static final int NEED = 2;
     private static final int LEVEL = 3;
     private static final int CANDIDATES = 4;
     private static final int FAILED = 5;
+    // In a plan: the GOAL's node among the terms, which remembered one it is.
     private static final int GOAL = 6;
-    private static final int LENGTH = 7;
     private static final int REMEMBERED = 7;
+    // In a forest: where the GOAL's signs begin, its SIZE.
+    private static final int SIGNS = 6;
+    private static final int SIZE = 7;
     private static final int COLUMNS = 8;
 
     private final Tape tape = new Tape();
@@ -66,9 +69,9 @@ public final class GivenSearch {
     private final Flat read = new Flat(TYPE_MOST);
     private final Flat flat = new Flat(SIZE_MOST);
     private final Written written = new Written();
-    private final Search search = new Search();
     private Text text = new Text();
     private Text spare = new Text();
+    private final Search search = new Search(text);
     private int faultAt = NONE;
     private int outs;
     private int shuts;
@@ -88,7 +91,6 @@ public final class GivenSearch {
             types[i].add(0);
         }
         told[ENDED] = NONE;
-        search.text = text;
     }
 
     // ---- the tape, THE TEXT
@@ -122,8 +124,7 @@ public final class GivenSearch {
         text = spare;
         spare = former;
         text.settle();
-        search.text = text;
-        search.memory.forget();
+        search.tell(text);
         tape.length = 0;
         faultAt = NONE;
         outs = 0;
@@ -319,7 +320,7 @@ public final class GivenSearch {
         if (what == 6) {
             return tree.nodes.get(k, CANDIDATES) - tree.nodes.get(k, FAILED) - 1;
         }
-        return what == 7 ? tree.nodes.get(k, LENGTH) : NO_SUCH;
+        return what == 7 ? tree.nodes.get(k, SIZE) : NO_SUCH;
     }
 
     public int writeGoal(int k) {
@@ -364,7 +365,7 @@ public final class GivenSearch {
         if (told[ENDED] == NONE || !text.hasGiven(k)) {
             return NONE;
         }
-        return endWith(outs | 1 << k);
+        return search.run(goal, askedIn, outs | 1 << k, shuts, false);
     }
 
     public int needed() {
@@ -373,7 +374,7 @@ public final class GivenSearch {
         }
         int bits = 0;
         for (int k = 0; k < text.givenCount; k++) {
-            if (endWith(outs | 1 << k) != FOUND) {
+            if (search.run(goal, askedIn, outs | 1 << k, shuts, false) != FOUND) {
                 bits |= 1 << k;
             }
         }
@@ -386,7 +387,7 @@ public final class GivenSearch {
         }
         int bits = 0;
         for (int k = 0; k < text.givenCount; k++) {
-            if (isIn(outs, k) && endWith(outs & ~(1 << k)) == FOUND) {
+            if (isIn(outs, k) && search.run(goal, askedIn, outs & ~(1 << k), shuts, false) == FOUND) {
                 bits |= 1 << k;
             }
         }
@@ -401,7 +402,7 @@ public final class GivenSearch {
             return text.lies[k] + 1;
         }
         search.begin(k, outs, shuts);
-        int wanted = search.terms.buildAlone(types[i]);
+        int wanted = search.terms.build(types[i], true);
         int firstLevel = NONE;
         int firstBest = 0;
         int all = 0;
@@ -413,7 +414,7 @@ public final class GivenSearch {
                 firstBest = text.bestOf(here);
             }
             all |= here;
-            around = text.around[around];
+            around = text.aroundOf(around);
         }
         if (what == 1) {
             return firstLevel;
@@ -432,7 +433,7 @@ public final class GivenSearch {
                 return NO_SUCH;
             }
         }
-        return search.countValues(search.terms.buildAlone(types[i]), givens, d);
+        return search.countValues(search.terms.build(types[i], true), givens, d);
     }
 
     // ---- helpers
@@ -452,10 +453,6 @@ public final class GivenSearch {
         written.clear();
         written.addFlat(flat);
         return written.length;
-    }
-
-    private int endWith(int outsThen) {
-        return search.run(goal, askedIn, outsThen, shuts, false);
     }
 
     /** What would be is asked with the same rows: so what the latest asking tells is held apart from them. */
@@ -494,7 +491,7 @@ public final class GivenSearch {
         }
 
         int at(int i) {
-            return i >= 0 && i < length() ? sign[i] : NONE;
+            return i >= 0 && i < size && i < sign.length ? sign[i] : NONE;
         }
 
         /** One part more for the CON at i. */
@@ -528,7 +525,7 @@ public final class GivenSearch {
             if (size != other.size) {
                 return false;
             }
-            for (int i = 0; i < length(); i++) {
+            for (int i = 0; i < size; i++) {
                 if (at(i) != other.at(i)) {
                     return false;
                 }
@@ -817,7 +814,7 @@ public final class GivenSearch {
                 into.add(isConNext() ? (next() - 'A') * 4 : FIRST_VAR + next() - 'a');
                 boolean isCon = isConNext();
                 at++;
-                if (isCon && isNext('(')) {
+                if (isCon && isNext('(') && open < TYPE_MOST) {
                     openAt[open] = into.size - 1;
                     open++;
                 } else {
@@ -932,26 +929,23 @@ public final class GivenSearch {
 
         // ---- nodes
 
-        private boolean has(int n) {
-            return n >= 0 && n < top && n < sign.length;
+        private int signOf(int n) {
+            return n >= 0 && n < top && n < sign.length ? sign[n] : NONE;
         }
 
         private boolean isUnknown(int n) {
-            return has(n) && sign[n] == FIRST_VAR;
+            return signOf(n) == FIRST_VAR;
         }
 
-        private int signOf(int n) {
-            return has(n) ? sign[n] : NONE;
-        }
-
+        /** Part 0 of an UNKNOWN is what is put for it. */
         private int partOf(int n, int i) {
             int at = n * PARTS_MOST + i;
-            return has(n) && at < link.length ? link[at] : NONE;
+            return n >= 0 && n < top && i >= 0 && at < link.length ? link[at] : NONE;
         }
 
         private void setPart(int n, int i, int to) {
             int at = n * PARTS_MOST + i;
-            if (has(n) && at < link.length) {
+            if (n >= 0 && n < top && i >= 0 && at < link.length) {
                 link[at] = to;
             }
         }
@@ -976,19 +970,13 @@ public final class GivenSearch {
             return made;
         }
 
-        /** What is built next has UNKNOWNS of its own. */
-        void freshUnknowns() {
-            Arrays.fill(unknownOf, NONE);
-        }
-
-        int buildAlone(Flat flat) {
-            freshUnknowns();
-            return build(flat);
-        }
-
-        /** From behind: so the parts stand ready, the first on top, when their CON comes. */
-        int build(Flat flat) {
+        /** With UNKNOWNS of its own, or with those of what was built ahead of it. */
+        int build(Flat flat, boolean hasOwn) {
+            if (hasOwn) {
+                Arrays.fill(unknownOf, NONE);
+            }
             openTop = 0;
+            // From behind: so the parts stand ready, the first on top, when their CON comes.
             for (int i = flat.size - 1; i >= 0; i--) {
                 int s = flat.at(i);
                 int made = s >= FIRST_VAR ? unknown(s - FIRST_VAR) : make(s);
@@ -1052,18 +1040,20 @@ public final class GivenSearch {
                 if (x == y) {
                     continue;
                 }
+                if (isUnknown(y)) {
+                    int former = x;
+                    x = y;
+                    y = former;
+                }
                 if (isUnknown(x)) {
-                    if (!put(x, y)) {
+                    if (standsIn(x, y)) {
                         return false;
                     }
-                } else if (isUnknown(y)) {
-                    if (!put(y, x)) {
-                        return false;
-                    }
-                } else if (signOf(x) != signOf(y)) {
-                    return false;
-                } else {
+                    put(x, y);
+                } else if (signOf(x) == signOf(y)) {
                     pushPairsOfParts(x, y);
+                } else {
+                    return false;
                 }
             }
             return pairTop == 0;
@@ -1083,15 +1073,7 @@ public final class GivenSearch {
             }
         }
 
-        private boolean put(int unknown, int n) {
-            if (standsIn(unknown, n)) {
-                return false;
-            }
-            set(unknown, n);
-            return true;
-        }
-
-        private void set(int unknown, int n) {
+        private void put(int unknown, int n) {
             if (trailTop == trail.length) {
                 trail = grown(trail, ROOM_MOST);
             }
@@ -1112,7 +1094,7 @@ public final class GivenSearch {
                 if (at == unknown) {
                     return true;
                 }
-                if (has(at) && seen[at] != stamp) {
+                if (at >= 0 && at < top && at < seen.length && seen[at] != stamp) {
                     seen[at] = stamp;
                     pushParts(at);
                 }
@@ -1145,7 +1127,7 @@ public final class GivenSearch {
 
         void putAgain(int from) {
             for (int i = Math.max(from, 0); i + 1 < savedTop; i += 2) {
-                set(saved[i], saved[i + 1]);
+                put(saved[i], saved[i + 1]);
             }
             savedTop = from;
         }
@@ -1194,12 +1176,12 @@ public final class GivenSearch {
 
         int get(int k, int column) {
             int at = k * COLUMNS + column;
-            return has(k) && column >= 0 && column < COLUMNS && at < cells.length ? cells[at] : NONE;
+            return k >= 0 && k < top && column >= 0 && column < COLUMNS && at < cells.length ? cells[at] : NONE;
         }
 
         void set(int k, int column, int to) {
             int at = k * COLUMNS + column;
-            if (has(k) && column >= 0 && column < COLUMNS && at < cells.length) {
+            if (k >= 0 && k < top && column >= 0 && column < COLUMNS && at < cells.length) {
                 cells[at] = to;
             }
         }
@@ -1230,17 +1212,20 @@ public final class GivenSearch {
             signTop = 0;
         }
 
-        /** LENGTH is the GOAL's SIZE, above SIZE_MOST if it is too large: then its signs are not kept. */
-        int add(Flat goal) {
+        /** A NODE like row k of another, but for its place; of a GOAL that is too large the SIZE alone is kept. */
+        void add(Flat goal, Nodes other, int k, int above, int need) {
             int made = nodes.add();
-            nodes.set(made, GOAL, signTop);
-            nodes.set(made, LENGTH, Math.min(goal.size, SIZE_MOST + 1));
-            if (goal.size <= SIZE_MOST) {
-                for (int i = 0; i < goal.size; i++) {
-                    addSign(goal.at(i));
-                }
+            nodes.set(made, GIVEN, other.get(k, GIVEN));
+            nodes.set(made, ABOVE, above);
+            nodes.set(made, NEED, need);
+            nodes.set(made, LEVEL, other.get(k, LEVEL));
+            nodes.set(made, CANDIDATES, other.get(k, CANDIDATES));
+            nodes.set(made, FAILED, other.get(k, FAILED));
+            nodes.set(made, SIGNS, signTop);
+            nodes.set(made, SIZE, Math.min(goal.size, SIZE_MOST + 1));
+            for (int i = 0; i < goal.size && goal.size <= SIZE_MOST; i++) {
+                addSign(goal.at(i));
             }
-            return made;
         }
 
         private void addSign(int s) {
@@ -1255,8 +1240,8 @@ public final class GivenSearch {
 
         void goalInto(int k, Flat into) {
             into.clear();
-            int from = nodes.get(k, GOAL);
-            int size = nodes.get(k, LENGTH);
+            int from = nodes.get(k, SIGNS);
+            int size = nodes.get(k, SIZE);
             for (int i = 0; i < size; i++) {
                 int at = from + i;
                 into.add(size <= SIZE_MOST && at >= 0 && at < signTop ? signs[at] : NONE);
@@ -1343,7 +1328,6 @@ public final class GivenSearch {
 
     /** One asking: each GOAL that is FOUND so far has a row in the plan, those for its NEEDS right behind. */
     private static final class Search {
-        Text text;
         final Terms terms = new Terms();
         final Memory memory = new Memory();
         final int[] tally = new int[TOLD];
@@ -1362,6 +1346,16 @@ public final class GivenSearch {
         private int shuts;
         private int stop;
         private boolean remembers;
+        private Text text;
+
+        Search(Text told) {
+            text = told;
+        }
+
+        void tell(Text told) {
+            text = told;
+            memory.forget();
+        }
 
         void begin(int scope, int outsThen, int shutsThen) {
             terms.clear();
@@ -1376,7 +1370,7 @@ public final class GivenSearch {
         int run(Flat goal, int scope, int outsThen, int shutsThen, boolean remembering) {
             begin(scope, outsThen, shutsThen);
             remembers = remembering;
-            int nodes = askGoal(terms.buildAlone(goal), 0, NONE, NONE);
+            int nodes = askGoal(terms.build(goal, true), 0, NONE, NONE);
             tally[ENDED] = stop == FOUND && nodes == 0 ? NOT_FOUND : stop;
             return tally[ENDED];
         }
@@ -1405,7 +1399,7 @@ public final class GivenSearch {
             int bits = 0;
             for (int g = 0; g < text.givenCount; g++) {
                 if (isIn(among, g)) {
-                    if (terms.unify(terms.buildAlone(text.part(g, 0)), goal)) {
+                    if (terms.unify(terms.build(text.part(g, 0), true), goal)) {
                         bits |= 1 << g;
                     }
                     terms.back(mark, top);
@@ -1596,9 +1590,9 @@ public final class GivenSearch {
 
         /** Tells its RESULT; its NEEDS stand in the depth's row, as each depth has but one GIVEN under way. */
         private int buildGiven(int g, int depth) {
-            int result = terms.buildAlone(text.part(g, 0));
+            int result = terms.build(text.part(g, 0), true);
             for (int i = 0; i < text.needsOf(g); i++) {
-                needAt[depth * NEEDS_MOST + i] = terms.build(text.part(g, i + 1));
+                needAt[depth * NEEDS_MOST + i] = terms.build(text.part(g, i + 1), false);
             }
             return result;
         }
@@ -1617,7 +1611,7 @@ public final class GivenSearch {
                 int met = plan.get(r, REMEMBERED);
                 if (met == NONE) {
                     terms.flatten(plan.get(r, GOAL), row);
-                    copyRow(plan, r, into, above, need);
+                    into.add(row, plan, r, above, need);
                 } else {
                     plantRemembered(met, into, base, above, need);
                 }
@@ -1631,19 +1625,8 @@ public final class GivenSearch {
                 int aboveHere = i == 0 ? above : at + memory.forest.nodes.get(from + i, ABOVE);
                 int needHere = i == 0 ? need : memory.forest.nodes.get(from + i, NEED);
                 memory.forest.goalInto(from + i, row);
-                copyRow(memory.forest.nodes, from + i, into, aboveHere, needHere);
+                into.add(row, memory.forest.nodes, from + i, aboveHere, needHere);
             }
-        }
-
-        /** The GOAL stands in row. */
-        private void copyRow(Nodes source, int k, Forest into, int above, int need) {
-            int made = into.add(row);
-            into.nodes.set(made, GIVEN, source.get(k, GIVEN));
-            into.nodes.set(made, ABOVE, above);
-            into.nodes.set(made, NEED, need);
-            into.nodes.set(made, LEVEL, source.get(k, LEVEL));
-            into.nodes.set(made, CANDIDATES, source.get(k, CANDIDATES));
-            into.nodes.set(made, FAILED, source.get(k, FAILED));
         }
 
         // ---- beside askings
@@ -1651,8 +1634,8 @@ public final class GivenSearch {
         /** Whether two can be UNIFIED, VARS of one letter being one; what both become stands in into. */
         boolean join(Flat a, Flat b, Flat into) {
             terms.clear();
-            int x = terms.buildAlone(a);
-            boolean isJoined = terms.unify(x, terms.build(b));
+            int x = terms.build(a, true);
+            boolean isJoined = terms.unify(x, terms.build(b, false));
             terms.flatten(x, into);
             return isJoined;
         }
@@ -1660,11 +1643,18 @@ public final class GivenSearch {
         /** Whether two can be UNIFIED, VARS of both being unlike. */
         boolean canMeet(Flat a, Flat b) {
             terms.clear();
-            int x = terms.buildAlone(a);
-            return terms.unify(x, terms.buildAlone(b));
+            int x = terms.build(a, true);
+            return terms.unify(x, terms.build(b, true));
         }
 
         int countValues(int goal, int givens, int deep) {
+            return count(goal, givens, Math.min(deep, VALUES_DEEP_MOST));
+        }
+
+        private int count(int goal, int givens, int deep) {
+            if (deep < 0) {
+                return 0;
+            }
             long sum = 0;
             for (int g = 0; g < text.givenCount && sum < VALUES_MOST; g++) {
                 if (isIn(givens, g) && (deep > 0 || text.needsOf(g) == 0)) {
@@ -1679,7 +1669,7 @@ public final class GivenSearch {
             int top = terms.top;
             long product = terms.unify(buildGiven(g, deep), goal) ? 1 : 0;
             for (int i = 0; i < text.needsOf(g) && product > 0; i++) {
-                long below = countValues(needAt[deep * NEEDS_MOST + i], givens, deep - 1);
+                long below = count(needAt[deep * NEEDS_MOST + i], givens, deep - 1);
                 product = Math.min(product * below, VALUES_MOST);
             }
             terms.back(mark, top);
