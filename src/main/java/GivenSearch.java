@@ -1326,7 +1326,10 @@ public final class GivenSearch {
         }
     }
 
-    /** One asking: each GOAL that is FOUND so far has a row in the plan, those for its NEEDS right behind. */
+    /**
+     * One asking. The plan has a row for each GOAL on the way, those for its NEEDS right behind; tryBest() drops the
+     * rows of what FAILED, so behind a row of a GOAL that is FOUND stand just those of its tree.
+     */
     private static final class Search {
         final Terms terms = new Terms();
         final Memory memory = new Memory();
@@ -1424,9 +1427,6 @@ public final class GivenSearch {
             }
             int cutsAhead = tally[CUT];
             int nodes = seek(goal, depth, me);
-            if (nodes == 0) {
-                plan.top = me;
-            }
             if (isClosed && stop == FOUND && tally[CUT] == cutsAhead) {
                 remember(goal, me, nodes);
             }
@@ -1462,18 +1462,17 @@ public final class GivenSearch {
 
         private int meet(int met, int me) {
             tally[MET]++;
-            int nodes = memory.nodesOf(met);
             plan.set(me, REMEMBERED, met);
-            if (nodes == 0) {
-                plan.top = me;
-            }
-            return nodes;
+            return memory.nodesOf(met);
         }
 
         private void remember(int goal, int me, int nodes) {
             terms.flatten(goal, row);
-            if (memory.takes(start, row)) {
-                memory.add(start, row, nodes);
+            if (!memory.takes(start, row)) {
+                return;
+            }
+            memory.add(start, row, nodes);
+            if (nodes > 0) {
                 plant(me, memory.forest);
             }
         }

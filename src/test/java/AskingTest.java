@@ -22,6 +22,7 @@ public final class AskingTest {
         goalsLarge();
         treesLarge();
         whichEndIsAhead();
+        manyUnknowns();
         Due.finish("AskingTest");
     }
 
@@ -326,6 +327,11 @@ public final class AskingTest {
         ask(x, 0, "A(" + lists(10, "Z") + ")", 0, "g0(g3(g1))");
         due("SIZE 100", x.node(2, 7), 100);
         due("SIZE 100 is remembered", x.is(4), 3);
+        String pair = "P(" + lists(10, "Z") + "," + lists(10, "Z") + ")";
+        String large = "C(L(P(L(" + pair + "),L(" + pair + "))),P(L(" + pair + "),L(" + pair + ")))";
+        Due.due("SIZE 100 is written", Due.goal(x, 2), large);
+        ask(x, 0, "A(" + lists(10, "Z") + ")", 0, "g0(g3(g1))");
+        Due.due("SIZE 100 is written as it was", Due.goal(x, 2), large);
         x = Due.told(text + "C(L(P(b,b)),L(P(b,b)));}");
         due("SIZE 101", Due.ask(x, 0, "A(" + lists(10, "Z") + ")"), 5);
         asked(x, "SIZE 101", 5, 2, 0, 0, 2, 0, 0, 2, 0);
@@ -349,6 +355,21 @@ public final class AskingTest {
         due("no tree", x.writeTree(), -1);
         due("255 NODES", Due.ask(x, 0, "D(" + lists(7, "Z") + ")"), 6);
         asked(x, "255 NODES", 6, 3, 2, 0, 1);
+    }
+
+    /** T, of 85 GOALS with three UNKNOWNS each, ahead of what must not be lost then. */
+    private static void manyUnknowns() {
+        String text = "{T(a,b,c)<-U(a,b,c),U(b,c,d),U(c,d,e),U(d,e,f);U(a,b,c)<-V(a,b,c),V(b,c,d),V(c,d,e),V(d,e,f);"
+            + "V(a,b,c)<-W(a,b,c),W(b,c,d),W(c,d,e),W(d,e,f);W(a,b,c);C(Z);D(Y);E(a,a);";
+        GivenSearch x = Due.told(text + "R<-T(a,b,c),T(a,b,c),E(d,L(d));}");
+        due("none is put for what it stands in", Due.ask(x, 0, "R"), 1);
+        asked(x, "none is put for what it stands in", 1, 1 + 85 + 85 + 1);
+        x = Due.told(text + "R<-T(a,b,c),T(d,e,f),C(g),D(g);}");
+        due("what was solved is known", Due.ask(x, 0, "R"), 1);
+        x = Due.told(text + "R(a)<-T(d,e,f),T(d,e,g),C(a);R(b)<-N;R(c)<-D(c),C(c);}");
+        due("what was solved stands again", Due.ask(x, 0, "R(q)"), 0);
+        Due.due("what was solved stands again", Due.answer(x), "R(Z)");
+        due("two FAILED", x.node(0, 5), 2);
     }
 
     private static void whichEndIsAhead() {

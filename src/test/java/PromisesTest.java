@@ -131,6 +131,15 @@ public final class PromisesTest {
         due("4: no asking was, its tree", x.node(0, 0), -2);
         due("4: no asking was, its answer", x.writeAnswer(), -1);
         due("4: all is forgotten", x.is(4), 0);
+        due("4: FOUND", Due.ask(x, 0, "B"), 0);
+        due("4: its tree", x.writeTree(), 9);
+        due("4: told again", Due.scopes(x, "{A;B<-A,A;}"), 2);
+        due("4: no tree then", x.node(0, 0), -2);
+        due("4: no tree then", x.writeTree(), -1);
+        due("4: no tree then", x.writeGoal(0), -1);
+        due("4: no tree then", x.writeAnswer(), -1);
+        due("4: nothing is needed then", x.needed(), -1);
+        due("4: nothing mends then", x.mends(), -1);
         due("4: without GIVENS", Due.scopes(x, "{}"), 0);
         due("4: without GIVENS", x.is(0), 1);
     }

@@ -142,15 +142,15 @@ public final class RoomTest {
                 + "V(a,b)<-W(a,c),W(a,d),W(a,e),W(P(a,a),f);W(P(a,b),c);W(L(a),c);W(M(a),c);W(Z,c);}");
         }
         if (i % 60 == 59) {
-            x.out(7, i % 120 == 59);
+            x.out(6, i % 120 == 59);
         }
         StringBuilder goal = new StringBuilder("Z");
         for (int bit = 1; bit < 1024; bit *= 2) {
             goal.insert(0, (i & bit) == 0 ? "L(" : "M(").append(')');
         }
-        Due.ask(x, 0, "T(" + goal + ")");
-        x.writeTree();
-        x.writeGoal(i % 90);
+        Due.due("a large tree", Due.ask(x, 0, "T(" + goal + ")"), 0);
+        Due.due("a large tree", x.writeTree(), 85 * 2 + 21 * 5);
+        Due.due("a large tree", x.writeGoal(i % 85) > 0, true);
     }
 
     private static void manyAskings(GivenSearch x, int i) {
@@ -159,9 +159,9 @@ public final class RoomTest {
             x.out(12, true);
             Due.ask(x, 1, "A(Z)");
         }
-        x.mends();
-        x.without(i % 24);
-        x.candidates(0, 1, 3);
+        Due.due("what would be, again and again", x.mends(), 0);
+        Due.due("what would be, again and again", x.without(23), 3);
+        Due.due("what would be, again and again", x.without(10), 1);
     }
 
     private static void manyValues(GivenSearch x, int i) {
