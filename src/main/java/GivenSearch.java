@@ -116,8 +116,10 @@ public final class GivenSearch {
     }
 
     public int scopes() {
-        if (!tape.readText(spare)) {
-            faultAt = tape.at;
+        boolean isGood = tape.readText(spare);
+        faultAt = isGood ? NONE : tape.at;
+        tape.length = 0;
+        if (!isGood) {
             return NONE;
         }
         Text former = text;
@@ -125,8 +127,6 @@ public final class GivenSearch {
         spare = former;
         text.settle();
         search.tell(text);
-        tape.length = 0;
-        faultAt = NONE;
         outs = 0;
         shuts = 0;
         told[ENDED] = NONE;

@@ -120,7 +120,8 @@ public final class PromisesTest {
         due("4: all stays, OUT", x.is(2), 1);
         due("4: all stays, SHUT", x.is(3), 2);
         due("4: all stays, remembered", x.is(4), 2);
-        due("4: all stays, the tape", x.is(5), 3);
+        due("4: the tape is empty then, too", x.is(5), 0);
+        due("4: the tape is empty then, too", x.feed(0, 0, 0, 0, 0), 20);
         due("4: all stays, the asking", x.asked(1), 2);
         due("5: ahead of another", x.fault(), 3);
         due("4: another text", Due.scopes(x, "{A;B<-A,A;}"), 2);
