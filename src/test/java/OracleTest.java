@@ -225,6 +225,7 @@ public final class OracleTest {
         }
         due("scopes()", Due.scopes(x, text), fault < 0 ? o.givens.size() : -1);
         due("fault()", x.fault(), fault);
+        due("the tape is empty", x.is(5), 0);
     }
 
     private static int bits(List<Integer> all) {

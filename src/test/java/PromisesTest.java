@@ -18,6 +18,7 @@ public final class PromisesTest {
         out();
         shut();
         special();
+        specialOfLaterTexts();
         clashes();
         type();
         relation();
@@ -332,6 +333,19 @@ public final class PromisesTest {
         due("11: others", x.special(10, 0), -1);
         due("11: others", x.special(-1, 0), -1);
         due("11: others", x.special(0, -1), -1);
+    }
+
+    private static void specialOfLaterTexts() {
+        GivenSearch x = Due.told("{A(a);A(Z);}");
+        due("11: the first text", x.special(0, 1), 2);
+        Due.scopes(x, "{A(Z);A(Y);}");
+        due("11: the second text", x.special(0, 1), 0);
+        Due.scopes(x, "{A(Z);A(a);}");
+        due("11: the third text", x.special(0, 1), 1);
+        Due.scopes(x, "{A(Z);A(a)");
+        due("11: after a FAULT", x.special(0, 1), 1);
+        Due.scopes(x, "{P(a,Z);P(Z,a);}");
+        due("11: the fourth text", x.special(0, 1), 4);
     }
 
     private static void clashes() {
@@ -797,5 +811,11 @@ public final class PromisesTest {
         x.shut(0, false);
         values(x, "C(a)", 1, -1, -1, -1, -1);
         due("28: NONE ahead of -2", x.values(0, 1, 4), -1);
+        x = Due.told("{" + "A<-A,A,A,N;".repeat(23) + "A;}");
+        values(x, "A", 0, 1, 1, 1, 1);
+        x = Due.told("{A<-B;B;{A;{A;{A;{A;{A;}}}}}}");
+        values(x, "A", 5, 5, 6, 6, 6);
+        x.shut(0, true);
+        values(x, "A", 5, 5, 5, 5, 5);
     }
 }

@@ -12,6 +12,7 @@ public final class RoomTest {
     public static void main(String[] args) throws Exception {
         anyArguments();
         dearCalls("remembering trees that are large", RoomTest::largeTrees);
+        dearCalls("remembering and forgetting", RoomTest::manyForgotten);
         dearCalls("needed and mends", RoomTest::manyAskings);
         dearCalls("values", RoomTest::manyValues);
         smallStack();
@@ -153,6 +154,20 @@ public final class RoomTest {
         Due.due("a large tree", x.writeGoal(i % 85) > 0, true);
     }
 
+    /** What is remembered again, after much was forgotten, is as it was. */
+    private static void manyForgotten(GivenSearch x, int i) {
+        if (i == 0) {
+            Due.scopes(x, "{T(a)<-U(a),U(a),U(a),U(a);U(a)<-V(a),V(a),V(a),V(a);V(a)<-W,W,W,W;W;N;}");
+        }
+        x.out(4, i % 2 == 0);
+        Due.due("first", Due.ask(x, 0, "T(Z)"), 0);
+        Due.due("met", Due.ask(x, 0, "T(Z)"), 0);
+        Due.due("met", x.asked(1), 1);
+        Due.due("its tree", x.writeTree(), 85 * 2 + 21 * 5);
+        Due.due("its last GOAL", x.writeGoal(84), 1);
+        Due.due("its last GOAL", x.octet(0), 'W');
+    }
+
     private static void manyAskings(GivenSearch x, int i) {
         if (i == 0) {
             Due.scopes(x, "{" + "A(a)<-B(a),C;".repeat(10) + "B(a)<-A(L(a));C<-D;D<-E;E;{" + "A(a)<-B(L(a)),E;".repeat(9) + "E;}}");
@@ -169,8 +184,8 @@ public final class RoomTest {
             Due.scopes(x, "{A(Z);" + "A(a)<-A(a),A(a),B(P(a,a));".repeat(8) + "}");
             Due.type(x, 0, "A(Z)");
         }
-        x.values(0, 0, 3);
-        x.clashes();
+        Due.due("values, again and again", x.values(0, 0, 3), 1);
+        Due.due("clashes, again and again", x.clashes(), 28);
     }
 
     // ---- how deep
