@@ -908,11 +908,10 @@ public final class GivenSearch {
         int trailTop;
         int savedTop;
         private int[] sign = new int[256];
-        private int[] seen = new int[256];
+        private int[] listed = new int[256];
         private int[] link = new int[256 * PARTS_MOST];
         private int[] trail = new int[256];
         private int[] saved = new int[256];
-        private int stamp;
         private final int[] open = new int[OPEN_MOST];
         private final int[] pairs = new int[OPEN_MOST];
         private final int[] unknownOf = new int[LETTERS];
@@ -957,7 +956,7 @@ public final class GivenSearch {
         private int make(int s) {
             if (top == sign.length) {
                 sign = grown(sign, ROOM_MOST);
-                seen = grown(seen, ROOM_MOST);
+                listed = grown(listed, ROOM_MOST);
                 link = grown(link, ROOM_MOST * PARTS_MOST);
             }
             if (top >= sign.length) {
@@ -1022,7 +1021,7 @@ public final class GivenSearch {
         /** The node that n is, as far as UNKNOWNS are solved. */
         private int solved(int n) {
             int at = n;
-            for (int i = 0; i < top && isUnknown(at) && partOf(at, 0) != NONE; i++) {
+            for (int i = 0; i < top && signOf(at) == FIRST_VAR && partOf(at, 0) != NONE; i++) {
                 at = partOf(at, 0);
             }
             return at;
@@ -1084,22 +1083,41 @@ public final class GivenSearch {
             }
         }
 
-        /** Nodes that were seen already aren't gone through again: what is solved may share much. */
+        /**
+         * Each node is gone through once, as what is solved may share much. The marks of the nodes that are listed are
+         * taken away again, so that no call finds any of another one's.
+         */
         private boolean standsIn(int unknown, int n) {
-            stamp++;
             openTop = 0;
-            pushOpen(n);
-            for (int i = 0; i < STEPS_MOST && openTop > 0; i++) {
-                int at = solved(popOpen());
-                if (at == unknown) {
-                    return true;
-                }
-                if (at >= 0 && at < top && at < seen.length && seen[at] != stamp) {
-                    seen[at] = stamp;
-                    pushParts(at);
+            list(solved(n));
+            for (int i = 0; i < OPEN_MOST && i < openTop && !isListed(unknown); i++) {
+                int at = open[i];
+                for (int p = 0; p < Flat.partsOf(signOf(at)); p++) {
+                    list(solved(partOf(at, p)));
                 }
             }
-            return false;
+            boolean stands = isListed(unknown);
+            for (int i = 0; i < OPEN_MOST && i < openTop; i++) {
+                setListed(open[i], 0);
+            }
+            return stands;
+        }
+
+        private void list(int n) {
+            if (!isListed(n) && openTop < OPEN_MOST) {
+                setListed(n, 1);
+                pushOpen(n);
+            }
+        }
+
+        private boolean isListed(int n) {
+            return n >= 0 && n < top && n < listed.length && listed[n] == 1;
+        }
+
+        private void setListed(int n, int to) {
+            if (n >= 0 && n < top && n < listed.length) {
+                listed[n] = to;
+            }
         }
 
         /** What was put since mark goes again, and so do the nodes from newTop on. */
@@ -1326,6 +1344,47 @@ public final class GivenSearch {
         }
     }
 
+    /** How many VALUES the TYPES have that were counted latest in one call, so that none is counted over and over. */
+    private static final class Counts {
+        private static final int KEPT_MOST = 128;
+
+        private final Flat[] types = new Flat[KEPT_MOST];
+        private final int[] deeps = new int[KEPT_MOST];
+        private final int[] totals = new int[KEPT_MOST];
+        private int kept;
+        private int next;
+
+        void clear() {
+            kept = 0;
+            next = 0;
+        }
+
+        int find(Flat type, int deep) {
+            for (int i = 0; i < kept && i < KEPT_MOST; i++) {
+                if (deeps[i] == deep && types[i] != null && types[i].isSame(type)) {
+                    return totals[i];
+                }
+            }
+            return NONE;
+        }
+
+        /** In place of the oldest one, if there is no room; a TYPE that is too large isn't kept. */
+        void keep(Flat type, int deep, int total) {
+            if (type.size > SIZE_MOST) {
+                return;
+            }
+            int at = next < KEPT_MOST ? next : 0;
+            if (types[at] == null) {
+                types[at] = new Flat(SIZE_MOST);
+            }
+            types[at].take(type);
+            deeps[at] = deep;
+            totals[at] = total;
+            next = at + 1;
+            kept = Math.max(kept, next);
+        }
+    }
+
     /**
      * One asking. The plan has a row for each GOAL on the way, those for its NEEDS right behind; tryBest() drops the
      * rows of what FAILED, so behind a row of a GOAL that is FOUND stand just those of its tree.
@@ -1338,6 +1397,7 @@ public final class GivenSearch {
         int first = NONE;
         int second = NONE;
         private final Nodes plan = new Nodes();
+        private final Counts counts = new Counts();
         private final Flat row = new Flat(SIZE_MOST);
         private final Flat other = new Flat(SIZE_MOST);
         private final int[] underGiven = new int[OTHERS_MOST];
@@ -1647,13 +1707,26 @@ public final class GivenSearch {
         }
 
         int countValues(int goal, int givens, int deep) {
+            counts.clear();
             return count(goal, givens, Math.min(deep, VALUES_DEEP_MOST));
         }
 
         private int count(int goal, int givens, int deep) {
-            if (deep < 0) {
-                return 0;
+            if (deep <= 0) {
+                return deep < 0 ? 0 : countAnew(goal, givens, 0);
             }
+            terms.flatten(goal, row);
+            int known = counts.find(row, deep);
+            if (known != NONE) {
+                return known;
+            }
+            int total = countAnew(goal, givens, deep);
+            terms.flatten(goal, row);
+            counts.keep(row, deep, total);
+            return total;
+        }
+
+        private int countAnew(int goal, int givens, int deep) {
             long sum = 0;
             for (int g = 0; g < text.givenCount && sum < VALUES_MOST; g++) {
                 if (isIn(givens, g) && (deep > 0 || text.needsOf(g) == 0)) {

@@ -19,6 +19,7 @@ public final class PromisesTest {
         shut();
         special();
         specialOfLaterTexts();
+        specialAmongOthers();
         clashes();
         type();
         relation();
@@ -346,6 +347,16 @@ public final class PromisesTest {
         due("11: after a FAULT", x.special(0, 1), 1);
         Due.scopes(x, "{P(a,Z);P(Z,a);}");
         due("11: the fourth text", x.special(0, 1), 4);
+    }
+
+    /** The end of ../shared/tests/SpecialAfterManyValues.java; that nothing counts on ahead of it is seen in StateTest. */
+    private static void specialAmongOthers() {
+        GivenSearch x = Due.told("{E(T(T(A,A),T(A,A,A)),a,a);E(T(T(A,A),T(A,A,A)),b,F(b));L(a,A);L(A,B);}");
+        for (int i = 0; i < 200; i++) {
+            due("11: these aren't UNIFIED", x.special(2, 3), 0);
+            due("11: one would be in what is put for it", x.special(0, 1), 0);
+        }
+        due("12: nor do they clash", x.clashes(), 0);
     }
 
     private static void clashes() {
@@ -788,6 +799,10 @@ public final class PromisesTest {
         x = Due.told("{P(a,a);P(a,b)<-P(a,a);}");
         values(x, "P(L(Z),L(Z))", 0, 1, 2, 3, 4);
         values(x, "P(L(Z),L(Y))", 0, 0, 1, 2, 3);
+        // Two NEEDS of SIZE above 100 that are unlike at their ends alone.
+        x = Due.told("{V(a)<-W(N(a,a,a));W(a)<-X(P(N(a,a,a),Z)),X(P(N(a,a,a),Y));X(P(a,Z))<-Z;X(P(a,Z))<-Z;X(P(a,Y))<-Z;Z;}");
+        values(x, "V(L(L(L(L(L(L(L(L(L(L(Z)))))))))))", 0, 0, 0, 0, 2);
+        values(x, "W(Z)", 0, 0, 0, 2, 2);
     }
 
     private static void valuesManyOrNone() {
