@@ -1373,7 +1373,7 @@ public final class GivenSearch {
             if (type.size > SIZE_MOST) {
                 return;
             }
-            int at = next < KEPT_MOST ? next : 0;
+            int at = next >= 0 && next < KEPT_MOST ? next : 0;
             if (types[at] == null) {
                 types[at] = new Flat(SIZE_MOST);
             }
