@@ -286,7 +286,7 @@ public final class AskingTest {
         due("200 GOALS", Due.ask(x, 0, "R"), 0);
         asked(x, "200 GOALS", 0, 200, 0, 0, 200, 200, 4, 5, 6);
         due("200 GOALS", x.is(4), 2);
-        due("200 GOALS", Due.tree(x).length(), 200 * 2 + 2 * 50 + 149);
+        due("200 GOALS", x.writeTree(), 200 * 2 + 2 * 50 + 149);
         x = Due.told(many("V(a),W(b),W(c),W(d)"));
         due("a 201st GOAL", Due.ask(x, 0, "R"), 3);
         asked(x, "a 201st GOAL", 3, 200, 0, 0, 200, 0, 0, 5, 0);
@@ -330,7 +330,10 @@ public final class AskingTest {
         String pair = "P(" + lists(10, "Z") + "," + lists(10, "Z") + ")";
         String large = "C(L(P(L(" + pair + "),L(" + pair + "))),P(L(" + pair + "),L(" + pair + ")))";
         Due.due("SIZE 100 is written", Due.goal(x, 2), large);
+        x = Due.told(text + "C(L(P(b,b)),P(b,b));}");
+        Due.ask(x, 0, "A(" + lists(10, "Z") + ")");
         ask(x, 0, "A(" + lists(10, "Z") + ")", 0, "g0(g3(g1))");
+        due("SIZE 100 is met", x.asked(2), 1);
         Due.due("SIZE 100 is written as it was", Due.goal(x, 2), large);
         x = Due.told(text + "C(L(P(b,b)),L(P(b,b)));}");
         due("SIZE 101", Due.ask(x, 0, "A(" + lists(10, "Z") + ")"), 5);

@@ -13,6 +13,7 @@ public final class EdgesOfAskingTest {
         levelsWithoutAny();
         rounds();
         candidates24();
+        bestWhereverItStands();
         justOneOrTwo();
         threeOfTheBest();
         failsByOneNeed();
@@ -36,6 +37,7 @@ public final class EdgesOfAskingTest {
         nodesOfOneThatFails();
         nodesAndTwoThatAreAsGood();
         notAskedAnyMore();
+        notTriedAnyMore();
         nothingMoreIsRemembered();
         treesAtTheirSmallest();
         treesDeeperThan20();
@@ -394,8 +396,8 @@ public final class EdgesOfAskingTest {
         for (int i = 0; i < 45; i++) {
             due("NOT FOUND again", Due.ask(x, 0, goals[i]), 1);
             due("met: " + i, x.asked(2), i < 40 ? 1 : 0);
-            due("no more then", x.is(4), 40);
         }
+        due("no more then", x.is(4), 40);
         due("one that is FOUND", Due.ask(x, 0, "A"), 0);
         due("no more then", x.is(4), 40);
         due("one that is FOUND", Due.ask(x, 0, "A"), 0);
@@ -647,6 +649,50 @@ public final class EdgesOfAskingTest {
         x = Due.told("{A<-B,C,B;B;C;C;}");
         due("2", Due.ask(x, 0, "A"), 2);
         asked(x, "2: the third NEED isn't ASKED", 2, 3, 0, 0, 4, 0, 0, 2, 0);
+        x = Due.told("{A<-B,C,B;B;C<-D;D;D;}");
+        due("2 below", Due.ask(x, 0, "A"), 2);
+        asked(x, "2 below: the third NEED isn't ASKED", 2, 4, 0, 0, 5, 0, 0, 3, 0);
+    }
+
+    /** What has ended is TRIED no more: neither others of the BEST, nor those of a later round, nor of the next LEVEL. */
+    private static void notTriedAnyMore() {
+        String nine = lists(9, "Z");
+        String[] ways = {
+            "D;D;", MANY + "D<-T(a),T(b),T(c);",
+            "D<-E(" + nine + ",b);E(L(a),b)<-E(a,b);E(Z,b)<-F(" + nine + ",b);F(L(a),b)<-F(a,b);",
+            "D<-G(b),F(T(b,b,T(b,b,b)));G(T(c,c,c))<-H(c);H(T(T(I,I,I),T(I,I,I),I));F(a);",
+            "D<-E(" + lists(7, "Z") + ");E(L(a))<-E(a),E(a);E(Z);",
+        };
+        int[][] want = {
+            {2, 3, 0, 0, 4, 0, 0, 3, 0}, {3, 200, 0, 0, 200, 0, 0, 7, 0}, {4, 20, 0, 0, 20, 0, 0, 20, 0},
+            {5, 5, 0, 0, 5, 0, 0, 5, 0}, {6, 3 + 8 + 7, 7, 0, 3 + 8, 0, 0, 3 + 8, 0},
+        };
+        for (int i = 0; i < ways.length; i++) {
+            // A and B(Z) by the first of their BEST, then D.
+            GivenSearch x = Due.told("{B(a);A;" + ways[i] + "{A<-B(Z);A;B(Z)<-D;B(Z)<-N;B(a);A<-B(Z),N;}}");
+            due("ends", Due.ask(x, 1, "A"), want[i][0]);
+            asked(x, "ended with " + want[i][0], want[i]);
+        }
+        GivenSearch x = Due.told("{A(a);{A(a);A(Z);A(Z);}}");
+        due("AMBIGUOUS by the first round", Due.ask(x, 1, "A(Z)"), 2);
+        due("AMBIGUOUS by the first round", x.asked(4), 2);
+        x = Due.told("{A;{A;A;}}");
+        due("AMBIGUOUS by the first LEVEL", Due.ask(x, 1, "A"), 2);
+        due("AMBIGUOUS by the first LEVEL", x.asked(4), 2);
+    }
+
+    /** The more special one is the BEST wherever it stands. */
+    private static void bestWhereverItStands() {
+        for (int at = 0; at < 24; at++) {
+            GivenSearch x = Due.told("{" + "A(a);".repeat(at) + "A(Z);" + "A(a);".repeat(23 - at) + "}");
+            ask(x, 0, "A(Z)", 0, "g" + at);
+            due("the others are not TRIED", x.node(0, 6), 23);
+            due("it alone is TRIED", x.asked(4), 1);
+            x.out(at, true);
+            due("the others are as good", Due.ask(x, 0, "A(Z)"), 2);
+            due("the first of them", x.both(0), at == 0 ? 1 : 0);
+            due("the second of them", x.both(1), at < 2 ? 2 : 1);
+        }
     }
 
     /** "Ended by 2 to 6 nothing more is remembered": what was remembered ahead of that stays. */

@@ -54,6 +54,7 @@ public final class EdgesOfCallsTest {
         mendsOfAll();
         whatWouldBeChangesNothing();
         candidatesAtMost();
+        candidatesOfVars();
         candidatesNone();
         valuesDeep();
         valuesOfAMillion();
@@ -108,9 +109,9 @@ public final class EdgesOfCallsTest {
 
     /** "No SCOPES": what is asked of a SCOPE, a GIVEN, an asking is refused. */
     private static void newObjectRefuses() {
-        GivenSearch x = new GivenSearch();
-        String ahead = Seen.beyondFault(x);
         for (int n = -1; n < 10; n++) {
+            GivenSearch x = new GivenSearch();
+            String ahead = Seen.beyondFault(x);
             for (int what = 0; what < 9; what++) {
                 due("1: scope", x.scope(n, what), -2);
                 due("1: given", x.given(n, what), -1);
@@ -130,27 +131,33 @@ public final class EdgesOfCallsTest {
             due("1: without", x.without(n), -1);
             due("1: ask", Due.ask(x, n, "A"), -2);
             due("1: ask, no FAULT", x.fault(), -1);
+            due("1: writeTree", x.writeTree(), -1);
+            due("1: writeAnswer", x.writeAnswer(), -1);
+            due("1: needed", x.needed(), -1);
+            due("1: mends", x.mends(), -1);
+            Due.due("1: nothing has come of it", Seen.beyondFault(x), ahead);
         }
-        due("1: writeTree", x.writeTree(), -1);
-        due("1: writeAnswer", x.writeAnswer(), -1);
-        due("1: needed", x.needed(), -1);
-        due("1: mends", x.mends(), -1);
-        Due.due("1: nothing has come of it", Seen.beyondFault(x), ahead);
     }
 
     // ---- numbers that name nothing
 
-    private static void wrongNumbers() {
+    private static GivenSearch asked() {
         GivenSearch x = Due.told("{S(Z);S(L(a))<-S(a);{S(Y);}}");
         Due.type(x, 0, "S(L(Z))");
         Due.ask(x, 1, "S(L(Z))");
         x.writeTree();
-        String ahead = Seen.beyondFault(x) + Seen.types(x);
+        return x;
+    }
+
+    private static void wrongNumbers() {
+        String ahead = Seen.beyondFault(asked()) + Seen.types(asked());
         for (int n : WRONG) {
+            GivenSearch x = asked();
             wrongNumber(x, n);
             Due.due("nothing is done by " + n, Seen.beyondFault(x) + Seen.types(x), ahead);
         }
         for (int n : new int[] {3, 4, 5, 6, 7}) {
+            GivenSearch x = asked();
             due("9: out " + n, x.out(n, true), false);
             due("10: shut " + n, x.shut(n, true), false);
             due("8: given " + n, x.given(n, 0), -1);
@@ -405,6 +412,8 @@ public final class EdgesOfCallsTest {
         x.shut(0, true);
         x.shut(1, true);
         due("12: of SHUT ones, too", x.clashes(), 132);
+        due("12: of one SCOPE around another", Due.told("{A(a);{A(b);}A(c);{{A(d);}}}").clashes(), 1);
+        due("12: of one SCOPE in another", Due.told("{A(a);{A(b);{A(c);}A(d);}}").clashes(), 1);
         due("12: 1 and 2 are none", Due.told("{a;L(a);L(L(a));Z;}").clashes(), 0);
         due("12: 3, 4, 4", Due.told("{P(a,Z);P(b,Z);P(Y,a);}").clashes(), 3);
     }
@@ -488,7 +497,10 @@ public final class EdgesOfCallsTest {
         String want = "R(L(" + forty + ")," + forty + ",Q(" + thirteen + "," + four + "))";
         Due.due("15: SIZE 100", Due.written(x, x.unified(0, 3)), want);
         due("15: none behind", x.octet(want.length()), -1);
-        Due.due("15: SIZE 100, the other way", Due.written(x, x.unified(3, 0)), want);
+        x = types("R(L(b),b,Q(P(d,d,d),d))", c);
+        Due.due("15: SIZE 100, the other way", Due.written(x, x.unified(0, 3)), want);
+        x = types(c, "R(L(b),b,Q(P(d,d,d),d))");
+        x.unified(0, 3);
         Due.type(x, 3, "R(L(L(b)),b,Q(P(d,d,d),d))");
         due("15: SIZE 101", x.unified(0, 3), -1);
         due("15: what was written latest stays", x.octet(want.length() - 1), ')');
@@ -503,12 +515,13 @@ public final class EdgesOfCallsTest {
 
     /** "the latest asking stays": also what its GOAL and its SCOPE were. */
     private static void askRefused() {
-        GivenSearch x = Due.told("{A<-B;B;C;{A;D;}}");
-        Due.ask(x, 0, "A");
-        x.writeTree();
-        String ahead = Seen.beyondFault(x);
         String[] texts = {"", "D(", "D,", "D(E,F,G,H)", "{", "D(D(D(D,D,D),D(D,D,D),D(D,D,D)),D)"};
+        GivenSearch x = null;
         for (String text : texts) {
+            x = Due.told("{A<-B;B;C;{A;D;}}");
+            Due.ask(x, 0, "A");
+            x.writeTree();
+            String ahead = Seen.beyondFault(x);
             due("16: a FAULT, " + text, Due.ask(x, 1, text), -2);
             due("16: its place, " + text, x.fault() >= 0, true);
             Due.due("16: the latest asking stays", Seen.beyondFault(x), ahead);
@@ -520,7 +533,6 @@ public final class EdgesOfCallsTest {
             due("16: its GOAL, its SCOPE", x.without(2), 0);
             due("16: its GOAL, its SCOPE", x.without(3), 0);
             Due.due("16: its GOAL", Due.answer(x), "A");
-            x.writeTree();
         }
         due("16: the next", Due.ask(x, 1, "D"), 0);
         due("16: the next", x.needed(), 16);
@@ -550,7 +562,7 @@ public final class EdgesOfCallsTest {
         for (int end = 0; end <= 6; end++) {
             GivenSearch x = ended(end);
             int count = end == 0 ? 2 : 0;
-            for (int k = -1; k < 202; k++) {
+            for (int k : new int[] {-1, 0, 1, 2, 3, 4, 20, 199, 200, 201}) {
                 boolean isThere = k >= 0 && k < count;
                 for (int what = -1; what < 9; what++) {
                     boolean isTold = isThere && what >= 0 && what < 8;
@@ -613,13 +625,19 @@ public final class EdgesOfCallsTest {
         GivenSearch x = Due.told("{" + tens + "D(Z);D(L(a))<-D(a),D(a);R<-D(L(L(L(L(L(L(Z))))))),D(L(L(L(L(L(Z)))))),D(L(L(Z))),E;E<-D(Z);}");
         due("200 NODES", Due.ask(x, 0, "R"), 0);
         due("200 NODES", x.asked(5), 200);
-        String tree = Due.tree(x);
+        int length = x.writeTree();
         // Each g and two digits; a ( ) for each that has some below; a comma for each but the first of those below.
         int inner = 63 + 31 + 3 + 1 + 1;
-        due("20: all of it", tree.length(), 3 * 200 + 2 * inner + (199 - inner));
-        due("20: how it ends", tree.endsWith(",g21(g20,g20)),g23(g20))"), true);
-        due("20: how it begins", tree.startsWith("g22(g21(g21(g21(g21(g21(g21(g20,g20),"), true);
-        due("23: none behind", x.octet(tree.length()), -1);
+        due("20: all of it", length, 3 * 200 + 2 * inner + (199 - inner));
+        String begins = "g22(g21(g21(g21(g21(g21(g21(g20,g20),";
+        String ends = ",g21(g20,g20)),g23(g20))";
+        for (int k = 0; k < begins.length(); k++) {
+            due("20: how it begins", x.octet(k), begins.charAt(k));
+        }
+        for (int k = 0; k < ends.length(); k++) {
+            due("20: how it ends", x.octet(length - ends.length() + k), ends.charAt(k));
+        }
+        due("23: none behind", x.octet(length), -1);
         for (int g = 0; g < 24; g++) {
             x = Due.told("{" + "N;".repeat(g) + "A;" + "N;".repeat(23 - g) + "}");
             Due.ask(x, 0, "A");
@@ -635,6 +653,12 @@ public final class EdgesOfCallsTest {
             due("21: end " + end, x.writeAnswer(), end == 0 ? 1 : end == 2 ? 4 : -1);
             due("21: end " + end, x.octet(0), end == 0 ? 'R' : 'A');
             due("21: end " + end, x.octet(2), end == 2 ? 'a' : -1);
+            due("written ahead", x.unified(0, 0), 1);
+            due("20: end " + end, x.writeTree() > 0, end == 0);
+            due("20: what was written latest stays", x.octet(0), end == 0 ? 'g' : 'A');
+            due("written ahead", x.unified(0, 0), 1);
+            due("19: end " + end, x.writeGoal(0) > 0, end == 0);
+            due("19: what was written latest stays", x.octet(0), end == 0 ? 'R' : 'A');
             Due.scopes(x, "{}");
             due("21: no asking", x.writeAnswer(), -1);
         }
@@ -737,9 +761,9 @@ public final class EdgesOfCallsTest {
 
     /** "all else OUT, SHUT as it is now". */
     private static void withoutAsItIsNow() {
-        GivenSearch x = Due.told("{A;{A;{A;}}}");
-        due("FOUND", Due.ask(x, 2, "A"), 0);
         for (int bits = 0; bits < 8; bits++) {
+            GivenSearch x = Due.told("{A;{A;{A;}}}");
+            due("FOUND", Due.ask(x, 2, "A"), 0);
             for (int shuts = 0; shuts < 8; shuts++) {
                 for (int k = 0; k < 3; k++) {
                     x.out(k, (bits >> k & 1) == 1);
@@ -834,21 +858,18 @@ public final class EdgesOfCallsTest {
     /** "(nothing remembered, nothing stays; so needed(), mends())". */
     private static void whatWouldBeChangesNothing() {
         for (int end = 0; end <= 6; end++) {
-            GivenSearch x = Due.told(ENDS[end].substring(0, ENDS[end].length() - 1) + "K;}");
-            int last = x.is(1) - 1;
-            x.out(last, true);
-            due("R ends with " + end, Due.ask(x, 0, "R"), end);
-            x.unified(0, 0);
-            String ahead = Seen.beyondFault(x);
-            for (int k = 0; k <= last; k++) {
-                x.without(k);
-                Due.due("24: nothing stays, end " + end, Seen.beyondFault(x), ahead);
+            int last = ended(end).is(1);
+            for (int k = 0; k <= last + 2; k++) {
+                GivenSearch x = Due.told(ENDS[end].substring(0, ENDS[end].length() - 1) + "K;}");
+                x.out(last, true);
+                due("R ends with " + end, Due.ask(x, 0, "R"), end);
+                x.unified(0, 0);
+                String ahead = Seen.beyondFault(x);
+                int got = k <= last ? x.without(k) : k == last + 1 ? x.needed() : x.mends();
+                Due.due("24, 25, 26: nothing stays, end " + end, Seen.beyondFault(x), ahead);
+                due("24, 25, 26: the same again", k <= last ? x.without(k) : k == last + 1 ? x.needed() : x.mends(), got);
+                due("R ends again with " + end, Due.ask(x, 0, "R"), end);
             }
-            x.needed();
-            Due.due("25: nothing stays, end " + end, Seen.beyondFault(x), ahead);
-            x.mends();
-            Due.due("26: nothing stays, end " + end, Seen.beyondFault(x), ahead);
-            due("R ends again with " + end, Due.ask(x, 0, "R"), end);
         }
         GivenSearch x = Due.told("{R<-A,A,N;A<-B;B;R<-M;}");
         due("NOT FOUND", Due.ask(x, 0, "R"), 1);
@@ -897,6 +918,31 @@ public final class EdgesOfCallsTest {
         due("27: LEVELS all the same", x.candidates(3, 5, 0), 6);
     }
 
+    /** "(its VARS UNKNOWNS)": whatever was built of VARS of these letters ahead of it. */
+    private static void candidatesOfVars() {
+        GivenSearch x = Due.told("{P(Z,a,Z);P(a,b,c);P(a,a,b);P(a,L(a),b);P(c,b,a)<-Q(a,b,c);}");
+        Due.type(x, 0, "P(c,b,a)");
+        Due.type(x, 1, "P(a,a,b)");
+        Due.type(x, 2, "P(L(b),c,a)");
+        int[] all = {31, 1 | 2 | 4 | 16, 2 | 4 | 8 | 16};
+        int[] best = {1 | 4 | 8, 1 | 4, 4 | 8};
+        for (int n = 0; n < 3; n++) {
+            for (int i = 0; i < 3; i++) {
+                x.unified(n, i);
+                x.special(i, n);
+                Due.ask(x, 0, "Q(c,b,a)");
+                due("27: all of TYPE " + i, x.candidates(i, 0, 2), all[i]);
+                due("27: the BEST of TYPE " + i, x.candidates(i, 0, 3), best[i]);
+                due("27: the LEVEL of TYPE " + i, x.candidates(i, 0, 1), 0);
+            }
+        }
+        x = Due.told("{A(Z);A(a);A(L(a));}");
+        Due.type(x, 0, "A(a)");
+        due("27: the first is the BEST, too", x.candidates(0, 0, 3), 1 | 4);
+        Due.type(x, 0, "A(Z)");
+        due("27: the first alone", x.candidates(0, 0, 3), 1);
+    }
+
     private static void candidatesNone() {
         GivenSearch x = Due.told("{P(a,a);P(a,L(a));}");
         Due.type(x, 0, "P(p,p)");
@@ -943,6 +989,15 @@ public final class EdgesOfCallsTest {
         for (int d = 0; d < 4; d++) {
             due("28: by the deepest of four, " + d + " deep", values(x, "A", 0, d), want[d]);
         }
+        x = Due.told("{X<-A,B;B<-A;A<-A;A;Y<-B,A;}");
+        due("28: one TYPE at two depths", values(x, "X", 0, 3), 3 * 2);
+        due("28: one TYPE at two depths", values(x, "X", 0, 2), 2);
+        due("28: one TYPE at two depths", values(x, "Y", 0, 3), 2 * 3);
+        x = Due.told("{X<-A,B;A<-C;C<-D;D;B<-A;Y<-B,A;}");
+        due("28: it is too deep the second time", values(x, "X", 0, 3), 0);
+        due("28: it is too deep the first time", values(x, "Y", 0, 3), 0);
+        due("28: by itself", values(x, "A", 0, 2), 1);
+        due("28: by itself", values(x, "B", 0, 3), 1);
         x = Due.told("{A;A;A<-B;B;B;{A;}}");
         due("28: nor AMBIGUOUS", values(x, "A", 1, 0), 3);
         due("28: nor AMBIGUOUS", values(x, "A", 1, 1), 5);

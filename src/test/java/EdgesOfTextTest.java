@@ -43,14 +43,15 @@ public final class EdgesOfTextTest {
 
     /** "a VAR: a letter a .. z; a CON: a letter A .. Z": each of the 256 bytes by itself. */
     private static void letters() {
-        GivenSearch x = new GivenSearch();
         for (char c = 0; c < 256; c++) {
+            GivenSearch x = new GivenSearch();
             boolean isLetter = LETTERS.indexOf(c) >= 0;
             due("a TYPE of the byte " + (int) c, Due.type(x, 0, "" + c), isLetter ? 1 : -1);
             due("the FAULT of the byte " + (int) c, x.fault(), isLetter ? -1 : 0);
             due("a part of the byte " + (int) c, Due.type(x, 1, "A(" + c + ")"), isLetter ? 2 : -1);
             due("the FAULT of the part " + (int) c, x.fault(), isLetter ? -1 : 2);
         }
+        GivenSearch x = new GivenSearch();
         for (char c : LARGE.toCharArray()) {
             due("a CON may have parts", Due.type(x, 0, c + "(A)"), 2);
         }
@@ -62,8 +63,8 @@ public final class EdgesOfTextTest {
 
     /** The bytes that may come behind what stands ahead: the others are the FAULT, these are not. */
     private static void typeGoesOn(String ahead, String bytes) {
-        GivenSearch x = Due.told("{}");
         for (char c = 0; c < 256; c++) {
+            GivenSearch x = Due.told("{}");
             String text = ahead + c;
             boolean isOpen = text.chars().filter(b -> b == '(').count() != text.chars().filter(b -> b == ')').count();
             int fault = bytes.indexOf(c) < 0 ? ahead.length() : isOpen ? text.length() : -1;
@@ -98,8 +99,8 @@ public final class EdgesOfTextTest {
     }
 
     private static void textGoesOn(String ahead, String bytes) {
-        GivenSearch x = new GivenSearch();
         for (char c = 0; c < 256; c++) {
+            GivenSearch x = new GivenSearch();
             String text = ahead + c;
             boolean isOpen = text.chars().filter(b -> b == '{').count() != text.chars().filter(b -> b == '}').count();
             int fault = bytes.indexOf(c) < 0 ? ahead.length() : isOpen ? text.length() : -1;
@@ -305,6 +306,7 @@ public final class EdgesOfTextTest {
             due("the first " + n + " of " + text, Due.scopes(x, text.substring(0, n)), -1);
             due("its FAULT", x.fault(), n);
         }
+        x = new GivenSearch();
         due("all of it", Due.scopes(x, text), 3);
         due("no FAULT", x.fault(), -1);
         due("one byte more", Due.scopes(x, text + "}"), -1);
@@ -375,6 +377,7 @@ public final class EdgesOfTextTest {
         for (int at = 0; at < 20; at++) {
             String bytes = at == 0 ? "{" : at % 2 == 1 ? "{}" + LETTERS : "(<;";
             for (int octet = 0; octet < 256; octet++) {
+                x = octet % 64 == 0 ? new GivenSearch() : x;
                 int[] words = new int[5];
                 for (int i = 0; i < 20; i++) {
                     words[i / 4] = words[i / 4] << 8 | (i == at ? octet : text.charAt(i));
@@ -394,9 +397,9 @@ public final class EdgesOfTextTest {
 
     /** From 781 bytes on none come; what is there stays as it is. */
     private static void tapeIsRefused() {
-        GivenSearch x = new GivenSearch();
         String text = of796() + "E);}";
         for (int n = 780; n <= 800; n++) {
+            GivenSearch x = new GivenSearch();
             Due.tape(x, text.substring(0, n));
             due("feed behind " + n, x.feed(0x45293B7D, 0x45293B7D, 0x45293B7D, 0x45293B7D, 0x45293B7D), n == 780 ? 800 : -1);
             due("bytes then", x.is(5), n == 780 ? 800 : n);
@@ -454,9 +457,9 @@ public final class EdgesOfTextTest {
 
     /** "(empty then)" of scopes(), type(), ask(), however they end. */
     private static void emptyTape() {
-        GivenSearch x = new GivenSearch();
         String[] texts = {"{A;}", "{A;", "A", "A(", "", ";"};
         for (String text : texts) {
+            GivenSearch x = new GivenSearch();
             for (int i = -1; i < 6; i++) {
                 Due.tape(x, text);
                 x.type(i);
@@ -519,57 +522,60 @@ public final class EdgesOfTextTest {
         due("ask that is well", x.fault(), -1);
     }
 
-    /** "NONE: a FAULT (all stays)": whatever the FAULT. */
-    private static void allStays() {
+    private static GivenSearch asked() {
         GivenSearch x = Due.told("{S(Z);S(L(a))<-S(a);{S(Y);}B;B;}");
         Due.type(x, 1, "P(a,L(b))");
-        Due.type(x, 2, "P(L(b),a)");
         x.out(2, true);
         x.shut(1, true);
         due("ask", Due.ask(x, 0, "S(L(L(Z)))"), 0);
-        x.unified(1, 2);
+        x.unified(1, 1);
+        return x;
+    }
+
+    /** "NONE: a FAULT (all stays)": whatever the FAULT. */
+    private static void allStays() {
         String[] texts = {"", "{", "{S(Z);S(Q)<-Q;{{}}", "{" + "A;".repeat(25) + "}", "{".repeat(7), "{A;}}", "A", "{A(b,c);{};}"};
-        String ahead = seenAll(x);
         for (String text : texts) {
+            GivenSearch x = asked();
+            String ahead = Seen.beyondFault(x) + Seen.types(x);
             due("scopes " + text, Due.scopes(x, text), -1);
-            Due.due("all stays with " + text, Seen.beyondFault(x), ahead.substring(0, ahead.indexOf('!')));
+            Due.due("all stays with " + text, Seen.beyondFault(x) + Seen.types(x), ahead);
+            x = asked();
+            due("scopes " + text, Due.scopes(x, text), -1);
+            Due.due("the tree stays with " + text, Due.tree(x), "g1(g1(g0))");
+            Due.due("the answer stays with " + text, Due.answer(x), "S(L(L(Z)))");
+            Due.due("the GOALS stay with " + text, Due.goal(x, 1), "S(L(Z))");
+            due("the GIVENS stay with " + text, x.special(1, 0), 0);
+            due("the GIVENS stay with " + text, x.special(3, 4), 3);
+            due("the GIVENS stay with " + text, x.needed(), 3);
             due("what was remembered stays", x.is(4), 3);
+            due("what was remembered is met", Due.ask(x, 0, "S(L(L(Z)))"), 0);
+            due("what was remembered is met", x.asked(2), 1);
         }
-        Due.due("all stays, what is written of it too", seenAll(x), ahead);
-        Due.ask(x, 0, "S(L(L(Z)))");
-        due("what was remembered is met", x.asked(2), 1);
-    }
-
-    private static String seenAll(GivenSearch x) {
-        return Seen.beyondFault(x) + "!" + Seen.types(x) + written(x);
-    }
-
-    /** What was written latest is put back. */
-    private static String written(GivenSearch x) {
-        String all = Due.answer(x) + Due.tree(x) + Due.goal(x, 1);
-        x.unified(1, 2);
-        return all;
     }
 
     /** "nothing is OUT, SHUT; no asking was". */
     private static void allIsNew() {
         String text = "{S(Z);S(L(a))<-S(a);{S(Y);}}";
-        GivenSearch fresh = Due.told(text);
-        GivenSearch x = Due.told("{" + "A(B)<-C(d),e;".repeat(24) + "{{}{}}}");
-        x.out(23, true);
-        x.shut(3, true);
-        Due.ask(x, 3, "A(B)");
-        Due.scopes(x, text);
-        Due.due("told", Seen.beyondFault(x), Seen.beyondFault(fresh));
+        String fresh = Seen.beyondFault(Due.told(text));
         for (int g = 0; g < 3; g++) {
+            GivenSearch x = Due.told("{" + "A(B)<-C(d),e;".repeat(24) + "{{}{}}}");
+            x.out(23 - g, true);
+            x.shut(3 - g, true);
+            Due.ask(x, 3, "A(B)");
+            due("told", Due.scopes(x, text), 3);
+            Due.due("told", Seen.beyondFault(x), fresh);
             Due.due("it was in", x.out(g, true), true);
             x.shut(g % 2, true);
             Due.ask(x, 1, "S(L(Z))");
             Due.ask(x, 0, "a");
             due("told again", Due.scopes(x, text), 3);
-            Due.due("told again", Seen.beyondFault(x), Seen.beyondFault(fresh));
+            Due.due("told again", Seen.beyondFault(x), fresh);
             due("FOUND then", Due.ask(x, 1, "S(L(Y))"), 0);
             due("none was remembered", x.asked(2), 0);
+            Due.type(x, g, "P(a,L(b))");
+            due("told again", Due.scopes(x, text), 3);
+            due("the TYPES are no part of THE TEXT", x.relation(g, g, 3), 4);
         }
     }
 }

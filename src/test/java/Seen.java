@@ -1,4 +1,4 @@
-/** What can be seen of an object by calls that change nothing in it. */
+/** What can be seen of an object by calls that change nothing in it: few enough, as an object has 512 calls. */
 final class Seen {
     private Seen() {
     }
@@ -9,12 +9,12 @@ final class Seen {
         for (int what : new int[] {0, 1, 2, 3, 4, 6}) {
             all.append(" is ").append(x.is(what));
         }
-        for (int k = 0; k < 9; k++) {
+        for (int k = 0; k <= x.is(0); k++) {
             for (int what = 0; what < 4; what++) {
                 all.append(what == 0 ? "\nscope " : " ").append(x.scope(k, what));
             }
         }
-        for (int k = 0; k < 25; k++) {
+        for (int k = 0; k <= x.is(1); k++) {
             for (int what = 0; what < 6; what++) {
                 all.append(what == 0 ? "\ngiven " : " ").append(x.given(k, what));
             }
@@ -29,7 +29,7 @@ final class Seen {
             all.append(' ').append(x.asked(what));
         }
         all.append(" both ").append(x.both(0)).append(' ').append(x.both(1));
-        for (int k = 0; k <= Math.max(0, x.asked(5)); k++) {
+        for (int k = 0; k <= Math.min(Math.max(0, x.asked(5)), 8); k++) {
             for (int what = 0; what < 8; what++) {
                 all.append(what == 0 ? "\nnode " : " ").append(x.node(k, what));
             }
